@@ -108,7 +108,7 @@ public final class NestRanges {
     public int joins(int kind) {
         if (!Text.isKindNumber(kind)) return refuseBad();
         trial.copy(now);
-        for (int r = 0; r < trial.count; r++) {
+        for (int r = 0; r < trial.count && r < MOST_RANGES; r++) {
             if (trial.kinds[r] == kind) trial.gatherInto(r);
         }
         int dropped = now.count - trial.count;
@@ -120,12 +120,12 @@ public final class NestRanges {
         if (!Text.isKindNumber(kind)) return refuseBad();
         makeNest();
         int coming = 0;
-        for (int r = 0; r < now.count; r++) {
+        for (int r = 0; r < now.count && r < MOST_RANGES; r++) {
             if (now.kinds[r] == kind) coming += Math.max(0, nest.piecesOf(r) - 1);
         }
         if (now.count + coming > MOST_RANGES) return refuseFull();
         trial.copy(now);
-        for (int r = 0; r < now.count; r++) {
+        for (int r = 0; r < now.count && r < MOST_RANGES; r++) {
             if (now.kinds[r] == kind) nest.breakUp(r, trial);
         }
         settle();
@@ -204,7 +204,7 @@ public final class NestRanges {
         if (what < 0 || what > 1) return refuseBad();
         int which = NONE;
         int fewest = NONE;
-        for (int r = 0; r < now.count; r++) {
+        for (int r = 0; r < now.count && r < MOST_RANGES; r++) {
             int left = fewestWithout(r, false);
             if (which == NONE || left < fewest) {
                 which = r;
@@ -272,7 +272,7 @@ public final class NestRanges {
             case 4: return now.length;
             case 5:
                 makeNest();
-                return nest.sections.size();
+                return nest.sections.size;
             case 6: return past.count;
             case 7: return now.ranksAsOne();
             default: return refuseBad();
@@ -282,7 +282,7 @@ public final class NestRanges {
     public long digest() {
         long h = 1951;
         for (int what = 0; what <= 7; what++) h = 31 * h + told(what);
-        for (int r = 0; r < now.count; r++) {
+        for (int r = 0; r < now.count && r < MOST_RANGES; r++) {
             h = 31 * h + now.kinds[r];
             h = 31 * h + now.begins[r];
             h = 31 * h + now.ends[r];
@@ -312,7 +312,13 @@ public final class NestRanges {
 
     private void makeNest() {
         if (nestStands) return;
-        nest.build(now, weights);
+        nest.sections.cut(now, NONE);
+        weights.weigh(now, nest.sections, false);
+        nest.fewest = weights.fewest;
+        nest.asFew = weights.asFew;
+        nest.plainSplits = weights.splitsOfFirst(nest.sections);
+        weights.choose(nest.sections, nest.chosen);
+        nest.layNodes(now);
         nestStands = true;
     }
 
@@ -514,8 +520,8 @@ public final class NestRanges {
     }
 
     /**
-     * A stack as one number: four bits a range, the outermost in the highest, the range's number
-     * and 1 (0: no more). So stacks of one section compare as their numbers do.
+     * A stack as one number, so that all stacks of a section fit in one row: four bits a range,
+     * the outermost in the lowest, each the range's number and 1 (0: no more ranges).
      */
     static final class Stack {
         private Stack() {
@@ -523,16 +529,12 @@ public final class NestRanges {
 
         static int at(int stack, int k) {
             if (k < 0 || k >= MOST_OVER) return NONE;
-            return ((stack >> shiftOf(k)) & 15) - 1;
+            return ((stack >> (4 * k)) & 15) - 1;
         }
 
         static int with(int stack, int k, int r) {
             if (k < 0 || k >= MOST_OVER) return stack;
-            return stack | ((r + 1) << shiftOf(k));
-        }
-
-        private static int shiftOf(int k) {
-            return 4 * (MOST_OVER - 1 - k);
+            return stack | ((r + 1) << (4 * k));
         }
 
         /** With how many ranges both begin alike. */
@@ -549,14 +551,17 @@ public final class NestRanges {
     static final class Sections {
         final int[] cuts = new int[MOST_CUTS];
         final int[] covers = new int[MOST_SECTIONS];
+        /** How many ranges cover both a section and the next one. */
+        final int[] shared = new int[MOST_SECTIONS];
         private int cutCount = 0;
-
-        int size() {
-            return Math.min(MOST_SECTIONS, Math.max(0, cutCount - 1));
-        }
+        int size = 0;
 
         boolean has(int s) {
-            return s >= 0 && s < size();
+            return s >= 0 && s < size && s < MOST_SECTIONS;
+        }
+
+        boolean isCut(int c, int place) {
+            return c >= 0 && c < cutCount && c < MOST_CUTS && cuts[c] == place;
         }
 
         void cut(Text text, int skipped) {
@@ -567,9 +572,8 @@ public final class NestRanges {
                     addCut(text.ends[r]);
                 }
             }
-            int covering = skipped < 0 ? -1 : ~(1 << skipped);
-            int size = size();
-            for (int s = 0; s < size; s++) covers[s] = text.coverAt(cuts[s]) & covering;
+            size = Math.max(0, cutCount - 1);
+            cover(text, skipped);
         }
 
         private void addCut(int place) {
@@ -582,19 +586,13 @@ public final class NestRanges {
             cutCount++;
         }
 
-        /** How many ranges cover both section s and the next one. */
-        int sharedFrom(int s) {
-            if (!has(s) || !has(s + 1)) return 0;
-            return Integer.bitCount(covers[s] & covers[s + 1]);
-        }
-
-        /** The splits from a stack of section s to a stack of the next one. */
-        int splitsBetween(int s, int stack, int next) {
-            return sharedFrom(s) - Stack.alike(stack, next);
-        }
-
-        boolean isCut(int c, int place) {
-            return c >= 0 && c < cutCount && c < MOST_CUTS && cuts[c] == place;
+        private void cover(Text text, int skipped) {
+            int others = skipped < 0 ? -1 : ~(1 << skipped);
+            for (int s = 0; s < size && s < MOST_SECTIONS; s++) {
+                covers[s] = text.coverAt(cuts[s]) & others;
+                shared[s] = 0;
+                if (s > 0) shared[s - 1] = Integer.bitCount(covers[s - 1] & covers[s]);
+            }
         }
     }
 
@@ -615,13 +613,13 @@ public final class NestRanges {
 
         void weigh(Text text, Sections sections, boolean ranksAlike) {
             for (int r = 0; r < MOST_RANGES; r++) ranks[r] = ranksAlike ? 0 : text.rankOf(r);
-            int size = sections.size();
+            int size = Math.min(sections.size, MOST_SECTIONS);
             for (int s = size - 1; s >= 0; s--) {
                 counts[s] = 0;
                 addStacks(s, sections.covers[s], 0, 0);
                 boolean last = s + 1 >= size;
                 setAll(s, last ? 0 : MORE_THAN_ANY_SPLITS, last ? 1 : 0);
-                shared = sections.sharedFrom(s);
+                shared = sections.shared[s];
                 if (!last) offerAlike(s, 0, 0, counts[s], 0, counts[s + 1]);
             }
             fewest = size == 0 ? 0 : cheapest(0, 0, counts[0]);
@@ -725,10 +723,10 @@ public final class NestRanges {
         /** The least stack, section by section, with which the fewest splits can still be had. */
         void choose(Sections sections, int[] chosen) {
             int left = fewest;
-            int size = Math.min(sections.size(), chosen.length);
+            int size = Math.min(sections.size, chosen.length);
             for (int s = 0; s < size; s++) {
                 for (int i = 0; i < counts[s]; i++) {
-                    int before = s == 0 ? 0 : sections.splitsBetween(s - 1, chosen[s - 1], stacks[s][i]);
+                    int before = s == 0 ? 0 : sections.shared[s - 1] - Stack.alike(chosen[s - 1], stacks[s][i]);
                     if (before + costs[s][i] == left) {
                         chosen[s] = stacks[s][i];
                         left = costs[s][i];
@@ -741,9 +739,8 @@ public final class NestRanges {
         /** The splits, if each section has its least stack. */
         int splitsOfFirst(Sections sections) {
             int all = 0;
-            int size = sections.size();
-            for (int s = 0; s + 1 < size; s++) {
-                all += sections.splitsBetween(s, stacks[s][0], stacks[s + 1][0]);
+            for (int s = 0; s + 1 < sections.size && s + 1 < MOST_SECTIONS; s++) {
+                all += sections.shared[s] - Stack.alike(stacks[s][0], stacks[s + 1][0]);
             }
             return all;
         }
@@ -765,18 +762,8 @@ public final class NestRanges {
         int asFew = 1;
         int plainSplits = 0;
 
-        void build(Text text, Weights weights) {
-            sections.cut(text, NONE);
-            weights.weigh(text, sections, false);
-            fewest = weights.fewest;
-            asFew = weights.asFew;
-            plainSplits = weights.splitsOfFirst(sections);
-            weights.choose(sections, chosen);
-            layNodes(text);
-        }
-
         /** Place by place, as nodes come by where they begin. */
-        private void layNodes(Text text) {
+        void layNodes(Text text) {
             size = 0;
             int deep = 0;
             int c = 0;
