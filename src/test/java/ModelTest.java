@@ -4,6 +4,8 @@ import java.util.Random;
 public final class ModelTest {
   private static final int RUNS = 1500;
   private static final int CALLS = 120;
+  /** What an object answers behind its 512th call is free. */
+  private static final int PROMISED = 512;
   private static final int[] ODD = {Integer.MIN_VALUE, Integer.MAX_VALUE, -1, -2, 4, 5, 8, 9, 90, 91, 1000000};
 
   private final Check check = new Check();
@@ -11,6 +13,7 @@ public final class ModelTest {
   private final NestRanges x = new NestRanges();
   private final Model m = new Model();
   private final StringBuilder calls = new StringBuilder();
+  private int asked = 0;
 
   private ModelTest(int run) {
     random = new Random(run);
@@ -32,6 +35,8 @@ public final class ModelTest {
   }
 
   private void due(String call, long got, long want) {
+    asked++;
+    if (asked > PROMISED) return;
     calls.append(call).append(" ");
     check.due(call, got, want);
   }

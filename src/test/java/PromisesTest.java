@@ -1,3 +1,5 @@
+import java.util.function.Consumer;
+
 /** Each promise of the document by itself: ordinary inputs, edges, wrong inputs. */
 public final class PromisesTest {
   private static final Check C = new Check();
@@ -382,34 +384,25 @@ public final class PromisesTest {
     due("undo()", x.undo(), -3);
   }
 
-  /** Each edit is undone whole: the digest that holds no count of refusals or edits is as before. */
+  /** Each edit is undone whole: what holds no count of refusals or edits is as before. */
   private static void undoOfEachEdit() {
     C.about("promise 12: each edit");
-    NestRanges x = with(0, 0, 12, 1, 5, 17, 0, 10, 22, 3, 8, 8);
-    long before = state(x);
-    x.range(1, 2, 3);
-    back(x, before);
-    x.drop(0);
-    back(x, before);
-    x.moves(0, 1, 2);
-    back(x, before);
-    x.kind(0, 3);
-    back(x, before);
-    x.rank(2, 0);
-    back(x, before);
-    x.puts(3, 4);
-    back(x, before);
-    x.takes(3, 14);
-    back(x, before);
-    x.joins(0);
-    back(x, before);
-    x.splits(1);
-    back(x, before);
-    x.draw(5, 8);
-    back(x, before);
+    back(x -> x.range(1, 2, 3));
+    back(x -> x.drop(0));
+    back(x -> x.moves(0, 1, 2));
+    back(x -> x.kind(0, 3));
+    back(x -> x.rank(2, 0));
+    back(x -> x.puts(3, 4));
+    back(x -> x.takes(3, 14));
+    back(x -> x.joins(0));
+    back(x -> x.splits(1));
+    back(x -> x.draw(5, 8));
   }
 
-  private static void back(NestRanges x, long before) {
+  private static void back(Consumer<NestRanges> edit) {
+    NestRanges x = with(0, 0, 12, 1, 5, 17, 0, 10, 22, 3, 8, 8);
+    long before = state(x);
+    edit.accept(x);
     C.holds("changed", state(x) != before);
     due("told(6)", x.told(6), 5);
     due("undo()", x.undo(), 4);

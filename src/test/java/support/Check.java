@@ -15,6 +15,13 @@ final class Check {
     if (wrong <= 40) System.out.println(about + ": " + call + " answered " + got + ", due is " + want);
   }
 
+  void same(String what, String got, String want) {
+    asked++;
+    if (got.equals(want)) return;
+    wrong++;
+    if (wrong <= 40) System.out.println(about + ": " + what + " is\n" + got + "\ndue is\n" + want);
+  }
+
   void holds(String what, boolean so) {
     due(what, so ? 1 : 0, 1);
   }
