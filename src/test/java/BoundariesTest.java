@@ -102,6 +102,16 @@ public final class BoundariesTest {
     int[] want = {1, 1, 1, 0, 40, 0, 0, 123};
     for (int w = 0; w < 8; w++) C.due("told(" + w + ")", x.told(w), want[w]);
     C.same("all", Texts.view(x), Texts.view(new NestRanges()));
+    C.about("promise 2: ranks as at first, each of them, and the nest goes by them");
+    NestRanges z = Texts.with(0, 0, 9, 3, 0, 9);
+    for (int k = 0; k < 4; k++) z.rank(k, 3 - k);
+    C.same("stacks", Texts.stacks(z), "1 0");
+    z.anew(40);
+    C.due("told(7)", z.told(7), 123);
+    C.due("nodes()", z.nodes(), 0);
+    z.range(3, 0, 9);
+    z.range(0, 0, 9);
+    C.same("stacks", Texts.stacks(z), "1 0");
     C.about("promise 2: nothing to undo, also when edits were lost");
     NestRanges y = new NestRanges();
     for (int i = 0; i < 20; i++) y.puts(0, 1);
@@ -199,6 +209,11 @@ public final class BoundariesTest {
     CALLS.full("moves(6, 0, 40)", five, x -> x.moves(6, 0, 40));
     CALLS.edit("moves(5, 0, 5)", five, x -> x.moves(5, 0, 5), -6);
     CALLS.edit("moves(5, 7, 7)", five, x -> x.moves(5, 7, 7), -11);
+    C.about("promise 5: FULL, also when range 0 is the last to begin");
+    Supplier<NestRanges> zero = () -> Texts.with(0, 30, 40, 0, 0, 20, 0, 0, 20, 0, 0, 20, 0, 0, 20, 0, 0, 20);
+    CALLS.full("moves(0, 5, 15)", zero, x -> x.moves(0, 5, 15));
+    CALLS.full("moves(0, 19, 40)", zero, x -> x.moves(0, 19, 40));
+    CALLS.edit("moves(0, 20, 40)", zero, x -> x.moves(0, 20, 40), 10);
     C.about("promise 5: where it was does not count, nor that there are eight");
     CALLS.edit("moves(4, 4, 10)", five, x -> x.moves(4, 4, 10), 2);
     CALLS.edit("moves(0, 5, 9)", five, x -> x.moves(0, 5, 9), 0);
@@ -550,6 +565,13 @@ public final class BoundariesTest {
     C.due("ways() with a gap", Texts.with(0, 1, 9, 0, 20, 30).ways(), 1);
     C.about("promise 18: five of one rank in one section");
     C.due("ways()", Texts.with(0, 1, 9, 0, 1, 9, 0, 1, 9, 0, 1, 9, 0, 1, 9).ways(), 120);
+    C.about("promise 18: like nests by hand");
+    C.due("ways(), either may be split", Texts.with(0, 0, 20, 0, 10, 30).ways(), 2);
+    C.due("ways(), three alike go on", Texts.with(0, 0, 20, 0, 0, 20, 0, 0, 20, 0, 0, 10).ways(), 6);
+    C.due("ways(), four alike go on", Texts.with(0, 0, 20, 0, 0, 20, 0, 0, 20, 0, 0, 20, 0, 0, 10).ways(), 24);
+    C.due("ways(), three alike come from before", Texts.with(0, 0, 20, 0, 0, 20, 0, 0, 20, 0, 10, 20).ways(), 6);
+    C.due("ways(), three of a step", Texts.with(0, 30, 40, 0, 20, 40, 0, 0, 30).ways(), 3);
+    C.due("ways(), ranks tell some", Texts.with(1, 10, 40, 0, 10, 20, 0, 10, 30, 0, 20, 40).ways(), 3);
     C.about("promise 18: below 1000000000");
     C.due("ways(), 6 to the 11th", longAndShort(3, 5).ways(), 362797056);
     // nine sections: in each the order of its long ones is free, as each cut splits them all
@@ -618,6 +640,10 @@ public final class BoundariesTest {
     C.about("promise 21: fewest, though an empty one comes first");
     CALLS.asked("without(0)", () -> Texts.with(0, 5, 5, 0, 0, 9, 0, 5, 15), x -> x.without(0), 1);
     CALLS.asked("without(1)", () -> Texts.with(0, 5, 5, 0, 0, 9, 0, 5, 15), x -> x.without(1), 0);
+    C.about("promise 21: fewest, by the others alone");
+    Supplier<NestRanges> last = () -> Texts.with(0, 10, 20, 0, 20, 30, 3, 0, 40);
+    CALLS.asked("without(0)", last, x -> x.without(0), 2);
+    CALLS.asked("without(1)", last, x -> x.without(1), 0);
     C.about("promise 21: range 7");
     CALLS.asked("without(0) of eight", () -> Texts.with(0, 1, 1, 0, 1, 1, 0, 1, 1, 0, 1, 1, 0, 1, 1, 3, 0, 10, 3, 20, 30, 0, 5, 25),
       x -> x.without(0), 7);

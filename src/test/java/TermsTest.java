@@ -1,4 +1,5 @@
 import java.util.function.Supplier;
+import java.util.function.ToIntFunction;
 
 /** The boundaries that the document's terms and its page of edits name, a test for each sentence. */
 public final class TermsTest {
@@ -32,6 +33,8 @@ public final class TermsTest {
     taking();
     takingEmptyOnes();
     badAheadOfFull();
+    nothingBehindRefused();
+    nothingBehindAnotherNest();
     full();
     C.end();
   }
@@ -268,6 +271,9 @@ public final class TermsTest {
     C.about("an empty one at 0 and at L");
     C.same("nodes", Texts.nodes(Texts.with(0, 0, 40, 1, 0, 0, 1, 40, 40)), "1 0 0 0 -1, 0 0 40 0 -1, 2 40 40 0 -1");
     C.same("nodes", Texts.nodes(Texts.of(0, 0, 0, 0)), "0 0 0 0 -1");
+    C.about("an empty one ahead of all pieces, behind them, between them");
+    C.same("nodes", Texts.nodes(Texts.with(0, 10, 20, 1, 5, 5, 1, 30, 30)), "1 5 5 0 -1, 0 10 20 0 -1, 2 30 30 0 -1");
+    C.same("nodes", Texts.nodes(Texts.with(0, 0, 10, 0, 20, 30, 1, 15, 15)), "0 0 10 0 -1, 2 15 15 0 -1, 1 20 30 0 -1");
     C.about("an empty one does not lie in an empty one");
     C.same("nodes", Texts.nodes(Texts.with(0, 7, 7, 0, 7, 7)), "0 7 7 0 -1, 1 7 7 0 -1");
   }
@@ -435,6 +441,62 @@ public final class TermsTest {
     CALLS.bad("puts(41, 51)", eight, x -> x.puts(41, 51));
     CALLS.bad("puts(-1, 51)", eight, x -> x.puts(-1, 51));
     CALLS.bad("puts(40, 91)", eight, x -> x.puts(40, 91));
+  }
+
+  private static void nothingBehindRefused() {
+    C.about("refused, changing nothing: the next edit goes as if it had not been asked");
+    Supplier<NestRanges> five = () -> Texts.with(0, 5, 9, 3, 5, 9, 0, 2, 9, 2, 5, 9, 0, 5, 12, 1, 9, 20);
+    behindRefused(five, "moves(5, 0, 40)", x -> x.moves(5, 0, 40));
+    behindRefused(five, "range(1, 0, 40)", x -> x.range(1, 0, 40));
+    behindRefused(five, "puts(0, 51)", x -> x.puts(0, 51));
+    behindRefused(five, "drop(6)", x -> x.drop(6));
+    behindRefused(() -> Texts.with(3, 0, 40, 0, 1, 2, 0, 3, 7, 2, 9, 9, 1, 6, 12), "splits(3)", x -> x.splits(3));
+  }
+
+  private static void behindRefused(Supplier<NestRanges> made, String first, ToIntFunction<NestRanges> refused) {
+    C.holds(first + " is refused", refused.applyAsInt(made.get()) < -1);
+    CALLS.sameBehind(first, refused, "range(3, 9, 9)", made, x -> x.range(3, 9, 9));
+    CALLS.sameBehind(first, refused, "drop(0)", made, x -> x.drop(0));
+    CALLS.sameBehind(first, refused, "moves(0, 1, 2)", made, x -> x.moves(0, 1, 2));
+    CALLS.sameBehind(first, refused, "kind(0, 3)", made, x -> x.kind(0, 3));
+    CALLS.sameBehind(first, refused, "rank(0, 3)", made, x -> x.rank(0, 3));
+    CALLS.sameBehind(first, refused, "puts(6, 3)", made, x -> x.puts(6, 3));
+    CALLS.sameBehind(first, refused, "takes(6, 11)", made, x -> x.takes(6, 11));
+    CALLS.sameBehind(first, refused, "joins(0)", made, x -> x.joins(0));
+    CALLS.sameBehind(first, refused, "splits(1)", made, x -> x.splits(1));
+    CALLS.sameBehind(first, refused, "draw(7, 3)", made, x -> x.draw(7, 3));
+    CALLS.sameBehind(first, refused, "undo()", made, x -> x.undo());
+  }
+
+  private static void nothingBehindAnotherNest() {
+    C.about("the nest is that of the ranges there are, whatever was asked of those that were");
+    Supplier<NestRanges> many = () -> Texts.with(3, 0, 40, 3, 0, 39, 3, 1, 40, 3, 0, 40, 0, 1, 2, 0, 3, 4, 0, 5, 6, 0, 7, 8);
+    ToIntFunction<NestRanges> asked = x -> x.nodes() + x.plain() + x.free() + x.without(1) + x.stack(0, 0);
+    CALLS.sameBehind("asking", asked, "anew(40)", many, x -> x.anew(40));
+    CALLS.sameBehind("asking", asked, "anew(40), range(0, 0, 9)", many, x -> x.anew(40) + x.range(0, 0, 9));
+    CALLS.sameBehind("asking", asked, "draw(9, 3)", many, x -> x.draw(9, 3));
+    CALLS.sameBehind("asking", asked, "drop(7)", many, x -> x.drop(7));
+    CALLS.sameBehind("asking", asked, "takes(1, 8)", many, x -> x.takes(1, 8));
+    CALLS.sameBehind("asking", asked, "joins(3)", many, x -> x.joins(3));
+    CALLS.sameBehind("asking", asked, "rank(3, 0)", many, x -> x.rank(3, 0));
+    CALLS.sameBehind("asking", asked, "kind(4, 3)", many, x -> x.kind(4, 3));
+    CALLS.sameBehind("asking", asked, "undo()", many, x -> x.undo());
+    CALLS.sameBehind("asking", asked, "undo() of all", many, x -> {
+      for (int i = 0; i < 7; i++) x.undo();
+      return x.undo();
+    });
+    CALLS.sameBehind("asking", asked, "drop of seven, splits(3)", many, x -> {
+      for (int r = 7; r > 0; r--) x.drop(r);
+      return x.splits(3);
+    });
+    C.about("the nest behind another one, by hand");
+    NestRanges x = many.get();
+    asked.applyAsInt(x);
+    for (int r = 7; r > 0; r--) x.drop(r);
+    C.due("all(1)", x.all(1), 0);
+    C.due("all(3)", x.all(3), 40);
+    C.due("plain()", x.plain(), 0);
+    C.due("of(0, 3)", x.of(0, 3), 1);
   }
 
   private static void full() {

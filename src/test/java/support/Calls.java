@@ -53,6 +53,25 @@ final class Calls {
     for (int w = 0; w < 3; w++) check.due("told(" + w + ") behind " + call, x.told(w), y.told(w));
     check.due("undo() of " + call, x.undo(), Math.min(11, before));
     if (before < 12) check.same("all behind the undone " + call, Texts.view(x), Texts.view(y));
+    sameBehindUndo(call, made, asked);
+  }
+
+  /** An edit begins with what stands, not with what an edit that was undone had made of it. */
+  private void sameBehindUndo(String call, Supplier<NestRanges> made, ToIntFunction<NestRanges> asked) {
+    NestRanges x = made.get(), y = made.get();
+    x.draw(1, 0);
+    x.undo();
+    check.due(call + " behind an undo", asked.applyAsInt(x), asked.applyAsInt(y));
+    check.same("all behind " + call + " behind an undo", Texts.view(x), Texts.view(y));
+  }
+
+  /** What was asked or refused ahead of an edit leaves nothing behind. */
+  void sameBehind(String first, ToIntFunction<NestRanges> earlier, String call, Supplier<NestRanges> made,
+      ToIntFunction<NestRanges> asked) {
+    NestRanges x = made.get(), y = made.get();
+    earlier.applyAsInt(x);
+    check.due(call + " behind " + first, asked.applyAsInt(x), asked.applyAsInt(y));
+    check.same("all behind " + call + " behind " + first, Texts.view(x), Texts.view(y));
   }
 
   /** An answer that is neither an edit nor refused: nothing changes at all. */
