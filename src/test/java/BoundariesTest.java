@@ -545,6 +545,7 @@ public final class BoundariesTest {
     C.about("promise 17: the most there are");
     C.due("least()", longAndShort(4, 4).least(), 32);
     C.due("least()", longAndShort(3, 5).least(), 30);
+    C.due("least() of fifteen sections", longAndShort(1, 7).least(), 14);
     C.about("promise 17: asking changes nothing");
     CALLS.asked("least()", USUAL, x -> x.least(), 2);
   }
@@ -601,6 +602,7 @@ public final class BoundariesTest {
     C.due("plain()", Texts.with(1, 0, 10, 0, 0, 30).plain(), 0);
     C.due("plain()", Texts.with(0, 0, 10, 1, 0, 30).plain(), 1);
     C.due("plain(), the most", longAndShort(4, 4).plain(), 32);
+    C.due("plain() of fifteen sections", longAndShort(1, 7).plain(), 14);
     CALLS.asked("plain()", USUAL, x -> x.plain(), 2);
   }
 

@@ -497,6 +497,13 @@ public final class TermsTest {
     C.due("all(3)", x.all(3), 40);
     C.due("plain()", x.plain(), 0);
     C.due("of(0, 3)", x.of(0, 3), 1);
+    C.about("pieces that were are none of a range's pieces");
+    NestRanges y = Texts.with(3, 0, 40, 0, 10, 20);
+    C.due("of(0, 3)", y.of(0, 3), 3);
+    y.moves(1, 40, 40);
+    C.due("of(0, 3)", y.of(0, 3), 1);
+    C.due("splits(3)", y.splits(3), 0);
+    C.same("ranges", Texts.ranges(y), "3 0 40, 0 40 40");
   }
 
   private static void full() {
