@@ -619,6 +619,11 @@ public final class BoundariesTest {
     C.due("least() behind free()", x.least(), 32);
     C.due("plain() behind free()", x.plain(), 32);
     C.due("ways() behind free()", x.ways(), 1000000000);
+    C.about("promise 20: all ranges count, the first and the last one, too");
+    C.due("free()", Texts.with(3, 0, 20, 0, 10, 30).free(), 1);
+    C.due("free()", Texts.with(3, 5, 5, 3, 0, 20, 0, 10, 30, 0, 40, 40).free(), 1);
+    // 0 across 1, and the last one across 4: leaving any of these out would tell 1
+    C.due("free()", Texts.with(0, 0, 4, 1, 2, 6, 2, 8, 8, 3, 9, 9, 2, 10, 14, 1, 12, 16).free(), 2);
     C.about("promise 20: as many, where all ranks are 0");
     for (int k = 0; k < 4; k++) x.rank(k, 0);
     C.due("least()", x.least(), 0);
